@@ -1,6 +1,13 @@
 /** Promise 3: the number of fillings of each shape. */
 public final class FillingsTest {
     public static void main(String[] args) {
+        everyShape();
+        edges();
+        Check.end();
+    }
+
+    private static void everyShape() {
+        Check.sentence("How many fillings the kept shape has.");
         for (int shape : Plain.shapes()) {
             int want = 0;
             for (int count : Plain.polynomial(shape).values()) {
@@ -10,11 +17,18 @@ public final class FillingsTest {
             Check.due("fillings() of " + shape, desk.fillings(), want);
             Check.due("fillings() of " + shape + " again", desk.fillings(), want);
         }
-        Check.due("fillings() of 100", Plain.keeping(100).fillings(), 3);
-        Check.due("fillings() of 111", Plain.keeping(111).fillings(), 1);
-        Check.due("fillings() of 210", Plain.keeping(210).fillings(), 8);
-        Check.due("fillings() of 420", Plain.keeping(420).fillings(), 27);
-        Check.due("fillings() of 600", Plain.keeping(600).fillings(), 28);
-        Check.end();
+    }
+
+    // The empty shape has one filling, the one with no cell; no shape has none.
+    private static void edges() {
+        Check.sentence("How many fillings the kept shape has: the fewest and the most");
+        Rows.fillings(0, 1);
+        Rows.fillings(111, 1);
+        Rows.fillings(222, 1);
+        Rows.fillings(100, 3);
+        Rows.fillings(210, 8);
+        Rows.fillings(420, 27);
+        Rows.fillings(600, 28);
+        Rows.fillings(510, 35);
     }
 }

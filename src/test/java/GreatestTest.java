@@ -1,20 +1,40 @@
 /** Promise 8: the greatest shape of a product. */
 public final class GreatestTest {
     public static void main(String[] args) {
+        everyProduct();
+        leastAndGreatest();
+        refused();
+        Check.end();
+    }
+
+    private static void everyProduct() {
+        Check.sentence("The greatest shape s (as a number) with m(s) > 0 in that product");
+        for (int[] pair : Plain.pairs()) {
+            Rows.greatest(pair[0], pair[1], Plain.product(pair[0], pair[1]).lastKey());
+        }
+    }
+
+    private static void leastAndGreatest() {
+        Check.sentence("The greatest shape s with m(s) > 0: the first and the last of all shapes");
+        Rows.greatest(0, 0, 0);
+        Rows.greatest(0, 100, 100);
+        Rows.greatest(100, 0, 100);
+        Rows.greatest(111, 111, 222);
+        Rows.greatest(210, 210, 420);
+        Rows.greatest(300, 300, 600);
+        Rows.greatest(0, 600, 600);
+        Rows.greatest(600, 0, 600);
+    }
+
+    private static void refused() {
+        Check.sentence("greatest: -1");
         for (int kept : Plain.shapes()) {
-            TableauDesk desk = Plain.keeping(kept);
-            for (int by : Plain.shapes()) {
-                boolean fits = Plain.cells(kept) + Plain.cells(by) <= 6;
-                int want = fits ? Plain.product(kept, by).lastKey() : -1;
-                Check.due("greatest(" + by + ") of " + kept, desk.greatest(by), want);
+            for (int by : Plain.refusedBy(kept)) {
+                Rows.greatest(kept, by, -1);
             }
         }
-        for (int number : Plain.allBut(Plain.shapes())) {
-            Check.due("greatest(" + number + ") of 0", new TableauDesk().greatest(number), -1);
-            Check.due("greatest(" + number + ") of 210", Plain.keeping(210).greatest(number), -1);
-        }
-        Check.due("greatest(0) of 0", Plain.keeping(0).greatest(0), 0);
-        Check.due("greatest(210) of 210", Plain.keeping(210).greatest(210), 420);
-        Check.end();
+        Rows.greatest(600, 100, -1);
+        Rows.greatest(100, 600, -1);
+        Rows.greatest(110, 222, -1);
     }
 }

@@ -1,29 +1,43 @@
 /** Promise 7: the sum of all m(s). */
 public final class PartsTest {
     public static void main(String[] args) {
-        for (int kept : Plain.shapes()) {
-            TableauDesk desk = Plain.keeping(kept);
-            for (int by : Plain.shapes()) {
-                Check.due("parts(" + by + ") of " + kept, desk.parts(by), want(kept, by));
-            }
-        }
-        for (int number : Plain.allBut(Plain.shapes())) {
-            Check.due("parts(" + number + ") of 0", new TableauDesk().parts(number), -1);
-            Check.due("parts(" + number + ") of 210", Plain.keeping(210).parts(number), -1);
-        }
-        Check.due("parts(210) of 210", Plain.keeping(210).parts(210), 6);
-        Check.due("parts(300) of 300", Plain.keeping(300).parts(300), 4);
+        everyProduct();
+        fewestAndMost();
+        refused();
         Check.end();
     }
 
-    private static int want(int kept, int by) {
-        if (Plain.cells(kept) + Plain.cells(by) > 6) {
-            return -1;
+    private static void everyProduct() {
+        Check.sentence("The sum of all m(s) in that product");
+        for (int[] pair : Plain.pairs()) {
+            int sum = 0;
+            for (int m : Plain.product(pair[0], pair[1]).values()) {
+                sum += m;
+            }
+            Rows.parts(pair[0], pair[1], sum);
         }
-        int sum = 0;
-        for (int m : Plain.product(kept, by).values()) {
-            sum += m;
+    }
+
+    // 210 by 210 has five shapes, one of them twice: each time counts.
+    private static void fewestAndMost() {
+        Check.sentence("The sum of all m(s) in that product: the fewest and the most");
+        Rows.parts(0, 0, 1);
+        Rows.parts(0, 600, 1);
+        Rows.parts(600, 0, 1);
+        Rows.parts(111, 111, 1);
+        Rows.parts(300, 300, 4);
+        Rows.parts(210, 210, 6);
+    }
+
+    private static void refused() {
+        Check.sentence("parts: -1");
+        for (int kept : Plain.shapes()) {
+            for (int by : Plain.refusedBy(kept)) {
+                Rows.parts(kept, by, -1);
+            }
         }
-        return sum;
+        Rows.parts(600, 100, -1);
+        Rows.parts(100, 600, -1);
+        Rows.parts(210, 400, -1);
     }
 }

@@ -7,10 +7,10 @@ import java.util.TreeMap;
  * products multiplied out, so that no formula of the program is used here.
  */
 final class Plain {
-    /** Numbers that no promise allows as a shape, beside those that are tried one by one. */
-    static final int[] FAR = {
-        Integer.MIN_VALUE, Integer.MIN_VALUE + 1, -1000000, -1111, -600, -321, -210, -100, -1,
-        1000, 1100, 1210, 2100, 10000, 100210, 65536 + 210, Integer.MAX_VALUE - 1, Integer.MAX_VALUE
+    // Added to a number that is allowed, each of these makes one that looks like it
+    // to a program that drops high digits, high bits or the sign.
+    private static final int[] FAR = {
+        1000, 10000, 1000000, 1 << 16, 1 << 24, 1 << 30, Integer.MIN_VALUE, -1000, -10000, -(1 << 16)
     };
 
     private Plain() {
@@ -42,7 +42,20 @@ final class Plain {
         return all;
     }
 
-    /** Every number from -1100 to 1100 that is not in the list, and those far off. */
+    /** Every pair of shapes that have together at most 6 cells. */
+    static List<int[]> pairs() {
+        List<int[]> all = new ArrayList<>();
+        for (int one : shapes()) {
+            for (int other : shapes()) {
+                if (cells(one) + cells(other) <= 6) {
+                    all.add(new int[] {one, other});
+                }
+            }
+        }
+        return all;
+    }
+
+    /** Every number from -1100 to 1100 that is not in the list, and some far off. */
     static List<Integer> allBut(List<Integer> allowed) {
         List<Integer> others = new ArrayList<>();
         for (int number = -1100; number <= 1100; number++) {
@@ -50,10 +63,25 @@ final class Plain {
                 others.add(number);
             }
         }
-        for (int number : FAR) {
-            others.add(number);
+        for (int number : allowed) {
+            for (int far : FAR) {
+                others.add(number + far);
+            }
         }
+        others.add(Integer.MAX_VALUE - 1);
+        others.add(Integer.MAX_VALUE);
         return others;
+    }
+
+    /** What no product with the kept shape takes: no shapes, and shapes with too many cells. */
+    static List<Integer> refusedBy(int kept) {
+        List<Integer> refused = allBut(shapes());
+        for (int by : shapes()) {
+            if (cells(kept) + cells(by) > 6) {
+                refused.add(by);
+            }
+        }
+        return refused;
     }
 
     static int[] rows(int shape) {
@@ -99,16 +127,22 @@ final class Plain {
         }
     }
 
-    /** The shapes of the product of two polynomials, each with its m(s). */
-    static TreeMap<Integer, Integer> product(int one, int other) {
-        TreeMap<Integer, Integer> rest = new TreeMap<>();
+    /** The product of two polynomials, in the same form as each of them. */
+    static TreeMap<Integer, Integer> multiplied(int one, int other) {
+        TreeMap<Integer, Integer> sum = new TreeMap<>();
         TreeMap<Integer, Integer> left = polynomial(one);
         TreeMap<Integer, Integer> right = polynomial(other);
         for (int a : left.keySet()) {
             for (int b : right.keySet()) {
-                rest.merge(a + b, left.get(a) * right.get(b), Integer::sum);
+                sum.merge(a + b, left.get(a) * right.get(b), Integer::sum);
             }
         }
+        return sum;
+    }
+
+    /** The shapes of the product of two polynomials, each with its m(s). */
+    static TreeMap<Integer, Integer> product(int one, int other) {
+        TreeMap<Integer, Integer> rest = multiplied(one, other);
         TreeMap<Integer, Integer> found = new TreeMap<>();
         while (!rest.isEmpty()) {
             int top = rest.lastKey();
